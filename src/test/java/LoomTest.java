@@ -1,3 +1,6 @@
+import java.util.ArrayList;
+import java.util.List;
+
 /** Promises 1 to 9 and 16: the loom, the chain, the bobbins, and undo. */
 public final class LoomTest {
     private static final Check CHECK = new Check();
@@ -20,6 +23,7 @@ public final class LoomTest {
         turnTo();
         wind();
         undo();
+        undoRestoresEverything();
         everyActionIsRecorded();
         noErrorChangesAnything();
         CHECK.close("LoomTest");
@@ -325,6 +329,98 @@ public final class LoomTest {
         Check.load(loom, "0;1");
         CHECK.due("undo() of load", 0, loom.undo());
         CHECK.due("the text does not come back", 0, loom.count(9));
+    }
+
+    private static DobbyLoom usedLoom() {
+        DobbyLoom loom = new DobbyLoom();
+        loom.setLoom(3, 5);
+        Check.load(loom, "02c1;1c2;-");
+        loom.setEnd(1, 0, 4);
+        loom.setFault(2, 2);
+        loom.setDirection(1);
+        loom.weave(3);
+        loom.wind(1, 7);
+        loom.weave(1);
+        return loom;
+    }
+
+    /** All that can be seen, but for the history and the text. */
+    private static List<Integer> look(DobbyLoom loom) {
+        List<Integer> seen = new ArrayList<>();
+        for (int what = 0; what < 8; what++) {
+            seen.add(loom.count(what));
+        }
+        int ends = seen.get(1);
+        int bars = seen.get(2);
+        int rows = seen.get(5);
+        for (int end = 0; end < ends; end++) {
+            for (int what = 0; what < 5; what++) {
+                seen.add(loom.end(end, what));
+            }
+        }
+        for (int bar = 0; bar < bars; bar++) {
+            for (int what = 0; what < 4; what++) {
+                seen.add(loom.bar(bar, what));
+            }
+        }
+        for (int color = 0; color < 10; color++) {
+            seen.add(loom.yarn(color));
+        }
+        for (int row = 0; row < rows; row++) {
+            for (int what = 0; what < 7; what++) {
+                seen.add(loom.row(row, what));
+            }
+            for (int end = 0; end < ends; end++) {
+                for (int what = 0; what < 4; what++) {
+                    seen.add(loom.cell(row, end, what));
+                }
+            }
+        }
+        return seen;
+    }
+
+    private static int act(DobbyLoom loom, int action) {
+        switch (action) {
+            case 0: return loom.setLoom(8, 32);
+            case 1: return loom.setEnd(1, 2, 9);
+            case 2: return loom.setFault(2, 1);
+            case 3: return loom.addBar(7, 9);
+            case 4: return loom.setBar(0, 7, 9);
+            case 5: return loom.setDirection(0);
+            case 6: return loom.turnTo(1);
+            case 7: return loom.wind(2, 9999);
+            case 8: return Check.load(loom, "2c7;01c8;01c9;-c9");
+            case 9: return loom.takeOut(4);
+            case 10: return loom.cutOff();
+            default: return loom.weave(9);
+        }
+    }
+
+    private static void undoRestoresEverything() {
+        CHECK.begin("16 undo, everything");
+        for (int action = 0; action < 12; action++) {
+            DobbyLoom loom = usedLoom();
+            if (action >= 10) {
+                loom.takeOut(1);
+                loom.wind(1, 70);
+            }
+            List<Integer> before = look(loom);
+            int states = loom.count(8);
+            CHECK.holds("action " + action + " is taken", act(loom, action) >= 0);
+            CHECK.due("undo() of action " + action, states - (states == 5 ? 1 : 0), loom.undo());
+            CHECK.holds("action " + action + " is undone", look(loom).equals(before));
+        }
+        DobbyLoom loom = usedLoom();
+        loom.takeOut(1);
+        List<Integer> before = look(loom);
+        loom.setLoom(2, 4);
+        Check.load(loom, "01c3;1c3");
+        loom.setFault(1, 2);
+        loom.weave(5);
+        for (int left = 4; left > 0; left--) {
+            CHECK.due("undo()", left, loom.undo());
+        }
+        CHECK.holds("four actions are undone", look(loom).equals(before));
     }
 
     private static void everyActionIsRecorded() {

@@ -219,6 +219,14 @@ public final class TextTest {
         CHECK.due("the row keeps the number of its bar", 2, loom.row(1, 1));
         CHECK.due("bar(1, 0)", DobbyLoom.INVALID_ARGUMENT, loom.bar(1, 0));
         CHECK.due("load of the empty text", -10, loom.load());
+        CHECK.due("a text that breaks off in brackets", -15, Check.load(loom, "2x(0;"));
+        loom.append('1');
+        loom.append(')');
+        CHECK.due("and goes on", 4, loom.load());
+        CHECK.due("a text that breaks off in brackets", -15, Check.load(loom, "2x(0;"));
+        CHECK.due("and another text", 2, Check.load(loom, "0;1"));
+        loom.undo();
+        loom.undo();
         loom.undo();
         CHECK.due("bars", 3, loom.count(2));
         CHECK.due("bar(2, 0)", 4, loom.bar(2, 0));

@@ -109,6 +109,22 @@ public final class WeaveTest {
         loom.wind(0, 11);
         CHECK.due("just enough", 1, loom.weave(1));
         CHECK.due("count(6)", 0, loom.count(6));
+        loom.setLoom(8, 32);
+        loom.addBar(255, 0);
+        loom.wind(0, 32 + 31);
+        CHECK.due("weave(2) with 32 ends", 2, loom.weave(2));
+        CHECK.due("the odd row lacks end 0 alone", 1, loom.row(1, 4));
+        CHECK.due("cell(1, 0, 0)", NONE, loom.cell(1, 0, 0));
+        CHECK.due("count(6)", 1, loom.count(6));
+        loom.takeOut(2);
+        loom.wind(0, 31);
+        loom.weave(1);
+        CHECK.due("the even row lacks end 31 alone", 1, loom.row(0, 4));
+        CHECK.due("cell(0, 31, 0)", NONE, loom.cell(0, 31, 0));
+        loom.takeOut(1);
+        loom.wind(0, 0);
+        loom.weave(1);
+        CHECK.due("no weft at all", 32, loom.row(0, 4));
     }
 
     /** Each length of yarn in an even and in an odd row, against the needs of the ends one by one. */
