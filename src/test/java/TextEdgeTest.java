@@ -10,6 +10,7 @@ public final class TextEdgeTest {
         textHoldsAtMostOneHundredAndTwenty();
         charactersAreOneToTwoHundredAndFiftyFive();
         clearTextEmptiesAnyText();
+        nothingOfAnEarlierTextIsRead();
         chainHasAtLeastOnePart();
         partsAreParted();
         bracketsHoldAtLeastOneBar();
@@ -125,6 +126,33 @@ public final class TextEdgeTest {
             loom.append('-');
             CHECK.due("nothing of the old text is left", 1, loom.load());
         }
+    }
+
+    private static void nothingOfAnEarlierTextIsRead() {
+        CHECK.begin("The text becomes empty");
+        String[] whole = {"0", "2", "-", "0c1", "2x(0)", "0;1"};
+        String[] missing = {"", " ", "0;", "0c", "2x", "2x(", "2x(0", "2x(0;", "0; "};
+        for (char sign : " 01x;()c-".toCharArray()) {
+            for (String text : whole) {
+                CHECK.holds(quoted(text) + " after " + sign, Check.load(loomAfterTextOf(sign), text) > 0);
+            }
+            for (String text : missing) {
+                int due = -10 - text.length();
+                CHECK.due(quoted(text) + " after " + sign, due, Check.load(loomAfterTextOf(sign), text));
+            }
+        }
+        DobbyLoom loom = new DobbyLoom();
+        CHECK.due("load()", 1, Check.load(loom, "0" + " ".repeat(119)));
+        loom.append('0');
+        loom.append(';');
+        CHECK.due("load() after load()", -12, loom.load());
+    }
+
+    private static DobbyLoom loomAfterTextOf(char sign) {
+        DobbyLoom loom = loomOf(4);
+        Check.write(loom, String.valueOf(sign).repeat(120));
+        loom.clearText();
+        return loom;
     }
 
     private static void chainHasAtLeastOnePart() {
