@@ -70,7 +70,9 @@ public final class FaceTest {
     private static void classesInside() {
         CHECK.begin("classes inside");
         CHECK.holds("at most twelve classes", DobbyLoom.class.getDeclaredClasses().length < 12);
+        sizes(DobbyLoom.class);
         for (Class<?> inside : DobbyLoom.class.getDeclaredClasses()) {
+            sizes(inside);
             int modifiers = inside.getModifiers();
             CHECK.holds(inside.getName() + " is static", Modifier.isStatic(modifiers));
             CHECK.holds(inside.getName() + " is not open", !Modifier.isPublic(modifiers) && !Modifier.isProtected(modifiers));
@@ -78,10 +80,15 @@ public final class FaceTest {
                 boolean constant = Modifier.isFinal(field.getModifiers());
                 CHECK.holds(field.getName() + ": static is final", !Modifier.isStatic(field.getModifiers()) || constant);
             }
-            for (Method method : inside.getDeclaredMethods()) {
-                CHECK.holds(method.getName() + " takes at most seven", method.getParameterCount() <= 7);
-            }
         }
+    }
+
+    private static void sizes(Class<?> type) {
+        for (Method method : type.getDeclaredMethods()) {
+            CHECK.holds(method.getName() + " takes at most seven", method.getParameterCount() <= 7);
+        }
+        long fields = Arrays.stream(type.getDeclaredFields()).filter(it -> !Modifier.isStatic(it.getModifiers())).count();
+        CHECK.holds(type.getName() + " has at most twenty fields", fields <= 20);
     }
 
     private static void source(String source) {
